@@ -40,14 +40,16 @@ public final class SootQueen {
     private static final int WORD = 'a';
     private static final int NUMBER = '0';
     private static final int MOST_DIGITS = 4;
+    private static final int MOST_NUMBER = 9999;
 
-    private static final int OF_PEOPLE = 0;
-    private static final int OF_PAIRS = 1;
-    private static final int OF_SEED = 2;
-    private static final int LINE_FAN = 0;
-    private static final int LINE_DRAWS = 1;
-    private static final int LINE_HOLDS = 2;
-    private static final int LINE_HABITS = 3;
+    private static final int LINE_PEOPLE = 0;
+    private static final int LINE_PAIRS = 1;
+    private static final int LINE_SEED = 2;
+    private static final int LINE_FAN = 3;
+    private static final int LINE_DRAWS = 4;
+    private static final int LINE_HOLDS = 5;
+    private static final int LINE_HABITS = 6;
+    private static final int LINES = 7;
 
     private static final int RULE_DRAWS = 0;
     private static final int RULE_HOLDS = 6;
@@ -821,7 +823,8 @@ public final class SootQueen {
                 return false;
             }
             for (int i = 0; i < word.length(); i++) {
-                if (signAt(start + i) != word.charAt(i)) {
+                int at = start + i;
+                if (at < 0 || at >= text.length || text[at] != word.charAt(i)) {
                     return false;
                 }
             }
@@ -875,14 +878,17 @@ public final class SootQueen {
         }
 
         /** The fault at the token that is read now, or 0, that token being the ; behind it all. */
-        int compile(Told into) {
+        int compile(Told into, int rule) {
             told = into;
             top = 0;
             open = 0;
             partMustStand = true;
+            int start = told.codeCount;
+            tokens.next();
             for (int i = 0; i <= TAPE; i++) {
                 if (!partMustStand && open == 0 && tokens.kind == ';') {
                     settle(1);
+                    told.setRule(rule, start);
                     return 0;
                 }
                 int fault = partMustStand ? part() : behindPart();
@@ -1030,8 +1036,7 @@ public final class SootQueen {
         private final Tokens tokens = new Tokens();
         private final Compiler compiler;
         private final int[] cardsTold = new int[MOST_CARDS];
-        private final boolean[] numberTold = new boolean[3];
-        private final boolean[] lineTold = new boolean[4 * MOST_PEOPLE];
+        private final boolean[] lineTold = new boolean[LINES * MOST_PEOPLE];
         private Told told;
         private boolean personTold;
         private int place;
@@ -1047,7 +1052,8 @@ public final class SootQueen {
             forget();
             tokens.open(tape, n);
             for (int i = 0; i <= n && tokens.kind != END; i++) {
-                int fault = line();
+                int what = lineKind();
+                int fault = what == NONE ? 1 : what < LINE_FAN ? numberLine(what) : personLine(what);
                 if (fault != 0) {
                     place = tokens.start;
                     return fault;
@@ -1063,63 +1069,60 @@ public final class SootQueen {
             for (int i = 0; i < cardsTold.length; i++) {
                 cardsTold[i] = 0;
             }
-            for (int i = 0; i < numberTold.length; i++) {
-                numberTold[i] = false;
-            }
             for (int i = 0; i < lineTold.length; i++) {
                 lineTold[i] = false;
             }
         }
 
-        /** The fault at the token that is read now, or 0, that token being the line's ; . */
-        private int line() {
+        private int lineKind() {
             if (tokens.isWord("people")) {
-                return numberLine(OF_PEOPLE, 2, MOST_PEOPLE);
+                return LINE_PEOPLE;
             }
             if (tokens.isWord("pairs")) {
-                return numberLine(OF_PAIRS, 1, MOST_PAIRS);
+                return LINE_PAIRS;
             }
             if (tokens.isWord("seed")) {
-                return numberLine(OF_SEED, 0, 9999);
+                return LINE_SEED;
             }
             if (tokens.isWord("fan")) {
-                return personLine(LINE_FAN);
+                return LINE_FAN;
             }
             if (tokens.isWord("draws")) {
-                return personLine(LINE_DRAWS);
+                return LINE_DRAWS;
             }
             if (tokens.isWord("holds")) {
-                return personLine(LINE_HOLDS);
+                return LINE_HOLDS;
             }
-            return tokens.isWord("habits") ? personLine(LINE_HABITS) : 1;
+            return tokens.isWord("habits") ? LINE_HABITS : NONE;
         }
 
-        private int numberLine(int which, int least, int most) {
-            if (which != OF_SEED && personTold) {
+        /** The fault at the token that is read now, or 0, that token being the line's ; . */
+        private int numberLine(int what) {
+            if (what != LINE_SEED && personTold) {
                 return 2;
             }
-            if (which < 0 || which >= numberTold.length || numberTold[which]) {
+            if (isTold(what, 0)) {
                 return 5;
             }
-            numberTold[which] = true;
             tokens.next();
+            int least = what == LINE_PEOPLE ? 2 : what == LINE_PAIRS ? 1 : 0;
+            int most = what == LINE_PEOPLE ? MOST_PEOPLE : what == LINE_PAIRS ? MOST_PAIRS : MOST_NUMBER;
             int fault = numberFault(least, most);
             if (fault != 0) {
                 return fault;
             }
-            if (which == OF_PEOPLE) {
-                told.people = tokens.number;
-            } else if (which == OF_PAIRS) {
-                told.pairs = tokens.number;
-            } else {
-                told.seed = tokens.number;
+            switch (what) {
+                case LINE_PEOPLE: told.people = tokens.number; break;
+                case LINE_PAIRS: told.pairs = tokens.number; break;
+                default: told.seed = tokens.number; break;
             }
             return endFault();
         }
 
+        /** As of a line with a number alone. */
         private int personLine(int what) {
             tokens.next();
-            int fault = numberFault(0, 9999);
+            int fault = numberFault(0, MOST_NUMBER);
             if (fault != 0) {
                 return fault;
             }
@@ -1127,18 +1130,26 @@ public final class SootQueen {
             if (person >= told.people) {
                 return 3;
             }
-            int line = what * MOST_PEOPLE + person;
-            if (line < 0 || line >= lineTold.length || lineTold[line]) {
+            if (isTold(what, person)) {
                 return 5;
             }
-            lineTold[line] = true;
             personTold = true;
             switch (what) {
                 case LINE_FAN: return cards(person);
-                case LINE_DRAWS: return rule(RULE_DRAWS + person);
-                case LINE_HOLDS: return rule(RULE_HOLDS + person);
+                case LINE_DRAWS: return compiler.compile(told, RULE_DRAWS + person);
+                case LINE_HOLDS: return compiler.compile(told, RULE_HOLDS + person);
                 default: return weights(person);
             }
+        }
+
+        /** Whether such a line came already; if not, it has come now. */
+        private boolean isTold(int what, int person) {
+            int at = what * MOST_PEOPLE + person;
+            if (at < 0 || at >= lineTold.length || lineTold[at]) {
+                return true;
+            }
+            lineTold[at] = true;
+            return false;
         }
 
         private int cards(int person) {
@@ -1170,14 +1181,6 @@ public final class SootQueen {
             fan.putIn(fan.size, card);
             cardsTold[card]++;
             return 0;
-        }
-
-        private int rule(int which) {
-            tokens.next();
-            int start = told.codeCount;
-            int fault = compiler.compile(told);
-            told.setRule(which, start);
-            return fault;
         }
 
         private int weights(int person) {
@@ -1305,7 +1308,7 @@ public final class SootQueen {
             for (int i = 0; i < MOST_PEOPLE; i++) {
                 last[i] = 0;
             }
-            turn = isEmpty(0) ? next(0) : 0;
+            turn = isEmpty(0) ? beside(0, true) : 0;
         }
 
         void copyFrom(Game other) {
@@ -1344,22 +1347,16 @@ public final class SootQueen {
             }
         }
 
-        private int next(int seat) {
+        /** The first who has cards, behind a seat or ahead of it. */
+        private int beside(int seat, boolean behind) {
             int other = seat;
             for (int i = 0; i < told.people; i++) {
-                other = other + 1 < told.people ? other + 1 : 0;
-                if (!isEmpty(other)) {
-                    return other;
+                if (behind) {
+                    other = other + 1 < told.people ? other + 1 : 0;
+                } else {
+                    other = other > 0 ? other - 1 : told.people - 1;
                 }
-            }
-            return NONE;
-        }
-
-        private int ahead(int seat) {
-            int other = seat;
-            for (int i = 0; i < told.people; i++) {
-                other = other > 0 ? other - 1 : told.people - 1;
-                if (!isEmpty(other)) {
+                if (other >= 0 && other < MOST_PEOPLE && fans[other].size > 0) {
                     return other;
                 }
             }
@@ -1368,7 +1365,7 @@ public final class SootQueen {
 
         /** From whom a seat draws. */
         int source(int seat) {
-            return (laws & LAW_AHEAD) != 0 ? ahead(seat) : next(seat);
+            return beside(seat, (laws & LAW_AHEAD) == 0);
         }
 
         boolean over() {
@@ -1447,7 +1444,7 @@ public final class SootQueen {
                 own.putIn(draw.ownPlace, card);
             }
             done++;
-            turn = next(turn);
+            turn = beside(turn, true);
         }
 
         void takeBack(Draw draw) {
