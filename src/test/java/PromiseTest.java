@@ -501,11 +501,33 @@ public final class PromiseTest {
         x.play(3);
         c.eq("kept", x.count(5), 3);
         c.eq("SPENT", x.belief(0, -1), -2);
+        for (int many : new int[] {59, 60, 61, 119, 120, 121, 180, 200}) {
+            undoneAsPlayed(many);
+        }
         SootQueen over = c.told(FOUR);
         over.play(200);
         c.eq("undo() when over", over.undo(), 4);
         c.eq("it isn't any more", over.count(3), 2);
         c.eq("nobody has lost", over.count(7), -1);
+    }
+
+    /** For ever too, but the queen lies and is drawn at other places every seven draws. */
+    private void undoneAsPlayed(int many) {
+        String text = "people 2;pairs 2;fan 0 1 2;fan 1 queen 1 2;draws 0 (turn-1)/7;draws 1 (turn-1)/7;"
+            + "holds 0 turn/7;holds 1 turn/7;";
+        SootQueen x = c.told(text);
+        SootQueen fresh = c.told(text);
+        c.eq("play(" + many + ")", x.play(many), many);
+        for (int i = 0; i < 60; i++) {
+            x.undo();
+        }
+        fresh.play(Math.max(0, many - 60));
+        c.eq(many + " less 60: fan 0", Checks.fan(x, 0), Checks.fan(fresh, 0));
+        c.eq(many + " less 60: fan 1", Checks.fan(x, 1), Checks.fan(fresh, 1));
+        c.eq(many + " less 60: turn", x.count(3), fresh.count(3));
+        c.eq(many + " less 60: draws", x.count(4), fresh.count(4));
+        c.eq(many + " less 60: goes on", x.play(60), 60);
+        c.eq("who has her", x.count(6), x.count(4) % 2 == 0 ? 1 : 0);
     }
 
     private void ends() {
@@ -664,6 +686,11 @@ public final class PromiseTest {
         SootQueen seven = c.told("people 2;pairs 7;fan 0 1 2 3 4 5 6 7;fan 1 queen 1 2 3 4 5 6 7;");
         c.eq("13699 tries", seven.belief(1, -1), 5040);
         c.eq("109600 tries", seven.belief(0, -1), -2);
+        // 0 is out and sees others with 4, 4 and 1 cards: 19033 tries; with 3, 5 and 1 there are 20017.
+        SootQueen below = c.told("people 4;pairs 4;fan 1 1 2 3 queen;fan 2 1 2 3 4;fan 3 4;");
+        c.eq("19033 tries", below.belief(0, -1), 5184);
+        SootQueen above = c.told("people 4;pairs 4;fan 1 1 2 3;fan 2 1 2 3 4 queen;fan 3 4;");
+        c.eq("20017 tries", above.belief(0, -1), -2);
         SootQueen ever = c.told(EVER);
         ever.play(60);
         c.eq("60 draws are kept", ever.belief(0, -1), 1);
