@@ -308,7 +308,7 @@ public final class ModelTest {
         if (starts.size() > 1) {
             int which = random.nextInt(starts.size() - 1);
             List<String> line = new ArrayList<>(t.subList(starts.get(which), starts.get(which + 1)));
-            if (random.nextBoolean() && line.get(1).length() == 1) {
+            if (random.nextBoolean() && line.size() > 1 && line.get(1).length() == 1) {
                 line.set(1, "" + random.nextInt(7));
             }
             t.addAll(starts.get(random.nextInt(starts.size())), line);
