@@ -59,11 +59,13 @@ final class Checks {
         same(what, outcome(call), "IllegalArgumentException");
     }
 
-    private static String outcome(Call call) {
+    /** The answer, or the exception's name; what the machine or its library throws is called so. */
+    static String outcome(Call call) {
         try {
             return "" + call.of();
         } catch (RuntimeException e) {
-            boolean own = e.getStackTrace().length > 0 && e.getStackTrace()[0].getClassName().startsWith("SootQueen");
+            String thrower = e.getStackTrace().length > 0 ? e.getStackTrace()[0].getClassName() : "";
+            boolean own = e.getMessage() == null && (thrower.startsWith("SootQueen") || thrower.startsWith("Model"));
             return e.getClass().getSimpleName() + (own ? "" : " of the machine");
         }
     }

@@ -1,7 +1,6 @@
 import java.util.ArrayList;
 import java.util.Collections;
 import java.util.List;
-import java.util.NoSuchElementException;
 import java.util.Random;
 
 /**
@@ -10,10 +9,6 @@ import java.util.Random;
  */
 public final class ModelTest {
     private static final int RUNS = 1500;
-
-    interface Call {
-        long of();
-    }
 
     private static int wrong = 0;
     private static int calls = 0;
@@ -55,24 +50,11 @@ public final class ModelTest {
         }
     }
 
-    private static String outcome(Call call) {
-        try {
-            return Long.toString(call.of());
-        } catch (NoSuchElementException | IllegalArgumentException e) {
-            // What the machine throws comes from the library or has a message; what is thrown here has none.
-            boolean own = e.getStackTrace()[0].getClassName().startsWith("SootQueen")
-                || e.getStackTrace()[0].getClassName().startsWith("Model");
-            return e.getClass().getSimpleName() + (own ? "" : " by the machine");
-        } catch (RuntimeException e) {
-            return "by the machine: " + e;
-        }
-    }
-
-    private void same(String name, Call a, Call b) {
+    private void same(String name, Checks.Call a, Checks.Call b) {
         calls++;
         left--;
-        String got = outcome(a);
-        String want = outcome(b);
+        String got = Checks.outcome(a);
+        String want = Checks.outcome(b);
         story.add(name + " = " + got + (got.equals(want) ? "" : ", due is " + want));
         fine &= got.equals(want);
     }

@@ -7,6 +7,7 @@ public final class Promise03Test {
         notSoMany();
         allAnew();
         allStays();
+        nothingOfAFault();
         goneAndStatusStays();
         peoplePairsAndSeed();
         tokens();
@@ -70,6 +71,8 @@ public final class Promise03Test {
         for (int i = 0; i < 3; i++) {
             c.eq("table", Checks.table(x, "people 6;pairs 9;seed 5;draws 0 0;draws 2 0;draws 5 0;holds 0 0;holds 5 0;"
                 + "habits 0 9 8 7 6 5 4;habits 5 1 2 3 4 5 6;fan 0 1;fan 5 1 queen;"), 0);
+            c.eq("table, the same again", Checks.table(x, "people 6;pairs 9;seed 6;draws 0 0;draws 2 0;draws 5 0;holds 0 0;"
+                + "holds 5 0;habits 0 9 8 7 6 5 4;habits 5 1 2 3 4 5 6;fan 0 1;fan 5 1 queen;"), 0);
             c.fans(x, "1", "", "", "", "", "1 queen");
             c.eq("his weight", x.person(5, 7), 6);
             c.eq("his weight", x.person(0, 2), 9);
@@ -121,6 +124,27 @@ public final class Promise03Test {
         c.eq("a table without a fault, once more", Checks.table(x, "people 2;pairs 1;fan 0 1;fan 1 1 queen;"), 0);
         c.fans(x, "1", "1 queen");
         c.eq("no weight of what had a fault", x.person(1, 2), 0);
+    }
+
+    private static void nothingOfAFault() {
+        c.about("promise 3: what had a FAULT is nothing to the next TEXT");
+        String[] faulty = {"draws 0 not;", "draws 0 not not 1 +;", "draws 0 (", "draws 0 ((((((1", "draws 0 1+(2*(3", "draws 0 1<2=",
+            "draws 0 1 or not (1 and", "holds 1 (((((1) x", "draws 0 not (not", "people 2;pairs 1;seed 1;fan 0 1 1", "fan 0 queen 1;",
+            "seed 1;seed", "habits 0 9 9 9 9 9 9;habits 1 9", "draws 0 1;draws 1 1;draws 2 1;holds 0 0;x", "pairs 9;draws 0 1;people"};
+        SootQueen x = new SootQueen();
+        for (String text : faulty) {
+            c.yes("'" + text + "' has a fault", Checks.table(x, text) > 0);
+            c.eq("a table behind '" + text + "'", Checks.table(x, Checks.FULL + "draws 0 5;"), 0);
+            c.eq("'5' behind '" + text + "'", x.person(0, 1), 5);
+            c.yes("'" + text + "' has a fault", Checks.table(x, text) > 0);
+            c.eq("a table behind '" + text + "'", Checks.table(x, Checks.FULL + "draws 0 (5);"), 0);
+            c.eq("'(5)' behind '" + text + "'", x.person(0, 1), 5);
+            c.yes("'" + text + "' has a fault", Checks.table(x, text) > 0);
+            c.eq("an empty one behind '" + text + "'", x.table(0), 0);
+            c.fans(x, "2 4", "queen 1", "2 1 4");
+            c.eq("no rule behind '" + text + "'", x.person(1, 1), 1);
+            c.eq("no weight behind '" + text + "'", x.person(0, 2), 0);
+        }
     }
 
     private static void goneAndStatusStays() {
@@ -193,6 +217,22 @@ public final class Promise03Test {
         c.bad(1, "^peoplepeople 3;");
         c.bad(1, "^seeds 3;");
         c.bad(1, "^see 3;");
+        for (String word : new String[] {"people", "pairs", "seed", "fan", "draws", "holds", "habits"}) {
+            for (int i = 0; i < word.length(); i++) {
+                c.bad(1, "^" + word.substring(0, i) + "x" + word.substring(i + 1) + " 0 1 1 1 1 1 1;");
+            }
+        }
+        for (String word : new String[] {"size", "own", "turn", "me", "last", "card", "not"}) {
+            for (int i = 0; i < word.length(); i++) {
+                c.bad(3, "draws 0 ^" + word.substring(0, i) + "x" + word.substring(i + 1) + ";");
+            }
+        }
+        for (String word : new String[] {"zueen", "quzen", "queez"}) {
+            c.bad(1, "fan 0 1 ^" + word + ";");
+        }
+        for (String word : new String[] {"zr", "oz", "znd", "azd", "anz"}) {
+            c.bad(1, "draws 0 1 ^" + word + " 1;");
+        }
         c.bad(1, "seed 1 ^2;");
         c.bad(3, "draws 0 ^sizesize;");
         c.bad(1, "draws 0 size ^size;");
@@ -211,6 +251,11 @@ public final class Promise03Test {
         c.eq("600 bytes are fed", Checks.feed(x, rule.append(';').toString()), 600);
         c.eq("table(600)", x.table(600), 0);
         c.eq("296 MOD 3", x.person(1, 1), 2);
+        for (int i = 0; i < 5; i++) {
+            Checks.feed(x, rule.toString());
+            c.eq("table(600), once more", x.table(600), 0);
+            c.eq("296 MOD 3, once more", x.person(1, 1), 2);
+        }
         c.eq("600 again", Checks.feed(x, rule.toString()), 600);
         c.eq("without its last byte", x.table(599), 1);
         c.eq("fault()", x.fault(), 599);

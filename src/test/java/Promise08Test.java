@@ -10,6 +10,7 @@ public final class Promise08Test {
         laidAside();
         held();
         heldBy();
+        eachByHisOwn();
         nextTurn();
         twoLeft();
         c.end("Promise08Test");
@@ -134,6 +135,30 @@ public final class Promise08Test {
         c.same("at 6 MOD 5", Checks.fan(x, 3), "8 7 1 2 3");
         c.eq("4 draws 9", x.draw(1), 9);
         c.same("four draws were done: at 1", Checks.fan(x, 4), "4 9 5 6");
+    }
+
+    private static void eachByHisOwn() {
+        c.about("promise 8: Each of the PEOPLE has a RULE by which he draws, one by which he holds");
+        StringBuilder text = new StringBuilder("people 6;pairs 9;fan 0 1 2 3;fan 1 4 5 6;fan 2 7 8 9;fan 3 1 2 3;fan 4 4 5 6;"
+            + "fan 5 7 8 9 queen;");
+        int[] draws = {1, 0, 1, 2, 2, 0};
+        int[] holds = {2, 0, 3, 1, 0, 2};
+        for (int person = 0; person < 6; person++) {
+            text.append("draws ").append(person).append(' ').append(draws[person]).append(';');
+            text.append("holds ").append(person).append(' ').append(holds[person]).append(';');
+        }
+        SootQueen x = c.told(text.toString());
+        for (int person = 0; person < 6; person++) {
+            c.eq("drawn by the rule of " + person, x.person(person, 1), draws[person]);
+        }
+        c.eq("play(6)", x.play(6), 6);
+        // 5 goes to 0, 7 to 1, 2 to 2 (at 3 MOD 3), 6 to 3, 9 to 4 and 1 to 5.
+        c.fans(x, "2 5 3", "7 4 6", "2 8 9", "1 6 3", "9 4 5", "7 8 1 queen");
+        SootQueen last = c.told("people 6;fan 5 1 2;fan 0 queen 1 2;holds 5 0;draws 5 0;draws 0 0;holds 0 1;");
+        c.eq("0 pairs", last.play(1), 1);
+        c.fans(last, "queen 2", "", "", "", "", "2");
+        c.eq("5 draws her", last.play(1), 1);
+        c.fans(last, "2", "", "", "", "", "queen 2");
     }
 
     private static void nextTurn() {

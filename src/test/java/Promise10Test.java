@@ -109,9 +109,9 @@ public final class Promise10Test {
         x.play(10);
         c.eq("60 again", x.count(5), 60);
         c.eq("undo()", x.undo(), 59);
-        changing(130);
-        changing(61);
-        changing(60);
+        for (int draws : new int[] {60, 61, 119, 120, 121, 130, 180, 200}) {
+            changing(draws);
+        }
     }
 
     /** The queen lies and is drawn at other places every seven draws; undone it must be as when it went there. */

@@ -12,6 +12,7 @@ public final class Promise20Test {
         ahead();
         atMost200();
         whatIsNowStays();
+        lawsOfEveningsAlone();
         wrongInputs();
         c.end("Promise20Test");
     }
@@ -183,8 +184,8 @@ public final class Promise20Test {
         x.draw(1);
         x.image();
         x.draw(1);
-        x.evenings(5, 60, 3, true, 0);
         x.evenings(5, 60, 0, false, -1);
+        x.evenings(5, 60, 3, true, 0);
         c.fans(x, "1 2 3", "", "queen 1 3", "2");
         c.eq("turn", x.count(3), 3);
         c.eq("draws", x.count(4), 2);
@@ -193,6 +194,30 @@ public final class Promise20Test {
         c.yes("the image", x.restore());
         c.eq("draws", x.count(4), 1);
         c.eq("undo()", x.undo(), 0);
+    }
+
+    /** Whatever laws and luck there were in the evenings, these are played on without. */
+    private static void lawsOfEveningsAlone() {
+        c.about("promise 20: LAWS (bits; of EVENINGS alone)");
+        String text = "people 4;pairs 6;draws 0 last+1;draws 1 turn;draws 2 size-1;holds 1 0;holds 3 own/2;";
+        for (int seed = 0; seed < 10; seed++) {
+            SootQueen x = c.told(text + "seed " + seed + ";");
+            SootQueen fresh = c.told(text + "seed " + seed + ";");
+            int loser = fresh.ends(0);
+            int draws = fresh.ends(1);
+            for (int laws = 0; laws <= 3; laws++) {
+                x.evenings(seed, 1, laws, true, 0);
+                c.eq("ends(1)", x.ends(1), draws);
+                x.evenings(seed, 1, laws, true, 0);
+                c.eq("ends(0)", x.ends(0), loser);
+                x.evenings(seed, 1, laws, true, 0);
+                c.eq("wouldLose by his rule", x.wouldLose(x.person(x.count(3), 1)), loser);
+                x.evenings(seed, 1, laws, false, 0);
+                c.eq("ends(1)", x.ends(1), draws);
+                x.evenings(seed, 1, laws, false, 0);
+                c.eq("seats(0, 0)", x.seats(0, 0), fresh.seats(0, 0));
+            }
+        }
     }
 
     private static void wrongInputs() {

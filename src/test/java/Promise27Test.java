@@ -6,6 +6,7 @@ public final class Promise27Test {
         none();
         asTheImage();
         theDrawsThatWereKept();
+        whoDrewThen();
         whatStays();
         c.end("Promise27Test");
     }
@@ -97,6 +98,38 @@ public final class Promise27Test {
         }
         c.yes("restore()", ever.restore());
         c.eq("kept", ever.count(5), 60);
+    }
+
+    /** First 0 goes out by his draw, so that 0, 1, 2, 1 draw; then he doesn't, and 0, 1, 2, 0 do. */
+    private static void whoDrewThen() {
+        c.about("promise 27: DRAWS that were kept: who drew, from whom, and 'last' before that");
+        SootQueen x = c.told("pairs 3;fan 0 1;fan 1 1 2 3;fan 2 2 3 queen;draws 1 last;");
+        for (int place : new int[] {0, 2, 2, 1}) {
+            c.yes("a draw", x.draw(place) >= 0);
+        }
+        c.fans(x, "", "2", "2 queen");
+        String kept = told(x);
+        x.image();
+        for (int i = 3; i >= 0; i--) {
+            c.eq("undo()", x.undo(), i);
+        }
+        for (int place : new int[] {1, 0, 0, 2}) {
+            c.yes("another draw", x.draw(place) >= 0);
+        }
+        c.fans(x, "", "1 3", "3 queen 1");
+        c.yes("restore()", x.restore());
+        c.same("as the image", told(x), kept);
+        c.eq("undo()", x.undo(), 3);
+        c.eq("1 drew", x.count(3), 1);
+        c.fans(x, "", "2 3", "2 3 queen");
+        c.eq("'last' of 1 is that of his draw before", x.person(1, 1), 2);
+        c.eq("undo()", x.undo(), 2);
+        c.eq("2 drew from 1", x.count(3), 2);
+        c.fans(x, "", "2 3 queen", "2 3");
+        c.eq("undo()", x.undo(), 1);
+        c.eq("'last' of 1 is 0", x.person(1, 1), 0);
+        c.eq("undo()", x.undo(), 0);
+        c.fans(x, "1", "1 2 3", "2 3 queen");
     }
 
     private static String told(SootQueen x) {
