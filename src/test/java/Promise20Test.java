@@ -9,6 +9,7 @@ public final class Promise20Test {
         seedsThatWrap();
         byLaws();
         shown();
+        aDrawAllTheSame();
         ahead();
         atMost200();
         whatIsNowStays();
@@ -139,6 +140,20 @@ public final class Promise20Test {
             int[] longest = {3, 4, 1};
             c.eq("longest, seed " + seed, first.evenings(seed, 1, 2, false, -2), longest[her]);
             c.eq("loses, seed " + seed, first.evenings(seed, 1, 2, false, her), 1);
+        }
+    }
+
+    /**
+     * By seed 7 there are 1 2, 1 queen and 2: 0 draws her at place 1, 1 draws the 2, so that 2 is out and 1 has
+     * 1 queen 2; at place 2 then 0 pairs, 1 pairs too, and has lost behind four draws.
+     */
+    private static void aDrawAllTheSame() {
+        c.about("promise 20: LAW 2: (a DRAW all the same): 'last' and 'turn' are by it too");
+        SootQueen dealt = c.told("people 3;pairs 2;seed 7;");
+        c.fans(dealt, "1 2", "1 queen", "2");
+        for (String rule : new String[] {"1+last", "1+turn/2", "1+(turn=2)"}) {
+            SootQueen x = c.told("people 3;pairs 2;draws 0 " + rule + ";");
+            evenings(x, 7, 1, 2, false, 0, 4, 1, 0, 1, 0);
         }
     }
 
